@@ -13,6 +13,7 @@ public final class SaidBack {
     private static final int KINDS = 6;
     private static final int MOST_TIES = 40;
     private static final int LAST_DAY = 200;
+    private static final int DAYS = LAST_DAY + 1;
     private static final int ACT_DAYS = 100;
 
     private static final int FIRST = 0;
@@ -172,7 +173,7 @@ public final class SaidBack {
             return NONE;
         }
         life.live(0, day, false);
-        return deny ? days.denial[day] : days.holdersOn(day);
+        return deny ? days.denial.has[day] : days.holdersOn(day);
     }
 
     public int run(int village, int telling, int what) {
@@ -296,7 +297,10 @@ public final class SaidBack {
         if (!onDay(day, LAST_DAY) || what < 0 || what > 1 || !take(village, telling)) {
             return NONE;
         }
-        return search.drawnWorld(seed, day, what == 0);
+        if (what == 0) {
+            return search.drawnHolders(seed, day);
+        }
+        return search.isDrawnClean(seed) ? 1 : 0;
     }
 
     public int worlds(int village, int telling, int seed, int w, int day, boolean holders) {
@@ -455,8 +459,7 @@ public final class SaidBack {
             return false;
         }
         life.village.copy(book.villages[village]);
-        life.given.plan.set(book.tellingOrNull(telling));
-        life.given.plain();
+        life.given.set(book.tellingOrNull(telling));
         return true;
     }
 
@@ -554,6 +557,11 @@ public final class SaidBack {
                 return 1;
             }
             return deny ? denialTires : wordTires;
+        }
+
+        /** How many days later it comes by a tie. */
+        int delay(int tie, boolean deny) {
+            return deny ? days[tie] + slow : days[tie];
         }
 
         int strengthTo(int person) {
@@ -725,18 +733,14 @@ public final class SaidBack {
             greatest = 0;
             village.clear();
             telling.acts = 0;
-            readLines(sort);
-            if (flaw == 0 && sort == VILLAGE && greatest >= village.people) {
-                flaw = 4;
-                flawAt = tape.length;
-            }
-        }
-
-        private void readLines(int sort) {
             next();
             boolean goesOn = true;
             for (int line = 0; line <= Tape.SIZE && goesOn; line++) {
                 goesOn = token != END && readLine(sort);
+            }
+            if (flaw == 0 && sort == VILLAGE && greatest >= village.people) {
+                flaw = 4;
+                flawAt = tape.length;
             }
         }
 
@@ -929,28 +933,40 @@ public final class SaidBack {
         }
     }
 
-    /** A telling laid out by days. */
-    private static final class Plan {
-        static final int AMOUNT = 9;
+    /** What a run is given: a telling by days, and what a what-if adds to it or takes from it. */
+    private static final class Given {
+        private static final int AMOUNT = 9;
 
         private final int[] words = new int[ACT_DAYS * ROOM];
         private final int[] denials = new int[ACT_DAYS * ROOM];
-        private final int[] told = new int[ACT_DAYS];
         private final long[] walls = new long[ACT_DAYS];
-        int lastDay;
-        int lastWall;
+        private int lastAct;
+        private int lastWall;
+        /** Only the walls of the telling count, and those are told the word on day 0. */
+        private boolean alone;
+        private int begin;
+        private int denied;
+        private int denyFrom;
+        private int denyTo;
+        private int silent;
+        private long dead;
+        private long barred;
+        private int barFrom;
 
+        /** Lays a telling (null: none) out by days, without any what-if. */
         void set(Telling telling) {
             Arrays.fill(words, 0);
             Arrays.fill(denials, 0);
-            Arrays.fill(told, 0);
             Arrays.fill(walls, 0L);
-            lastDay = 0;
+            lastAct = 0;
             lastWall = 0;
-            if (telling == null) {
-                return;
-            }
-            for (int act = 0; act < telling.acts; act++) {
+            alone = false;
+            begin = 0;
+            denied = 0;
+            silent = 0;
+            dead = 0L;
+            barred = 0L;
+            for (int act = 0; telling != null && act < telling.acts; act++) {
                 if (telling.sort[act] == WALL) {
                     raise(telling.first[act], telling.second[act], telling.third[act]);
                 } else {
@@ -964,53 +980,13 @@ public final class SaidBack {
                 walls[day] |= 1L << tie;
             }
             lastWall = Math.max(lastWall, until);
-            lastDay = Math.max(lastDay, until);
+            lastAct = Math.max(lastAct, until);
         }
 
         private void tell(int sort, int day, int person) {
             int[] rows = sort == WORD ? words : denials;
             rows[day * ROOM + person] += AMOUNT;
-            told[day] |= 1 << person;
-            lastDay = Math.max(lastDay, day);
-        }
-
-        int amount(int day, int person, boolean deny) {
-            if (day >= ACT_DAYS) {
-                return 0;
-            }
-            return deny ? denials[day * ROOM + person] : words[day * ROOM + person];
-        }
-
-        int toldOn(int day) {
-            return day < ACT_DAYS ? told[day] : 0;
-        }
-
-        long wallsOn(int day) {
-            return day < ACT_DAYS ? walls[day] : 0L;
-        }
-    }
-
-    /** What a run is given: a plan, and what a what-if adds to it or takes from it. */
-    private static final class Given {
-        final Plan plan = new Plan();
-        /** Only the walls of the plan count, and those are told the word on day 0. */
-        boolean alone;
-        int begin;
-        int denied;
-        int denyFrom;
-        int denyTo;
-        int silent;
-        long dead;
-        long barred;
-        int barFrom;
-
-        void plain() {
-            alone = false;
-            begin = 0;
-            denied = 0;
-            silent = 0;
-            dead = 0L;
-            barred = 0L;
+            lastAct = Math.max(lastAct, day);
         }
 
         void beginBy(int some) {
@@ -1030,83 +1006,118 @@ public final class SaidBack {
         }
 
         int lastDay() {
-            int last = alone ? plan.lastWall : plan.lastDay;
+            int last = alone ? lastWall : lastAct;
             if (denied != 0) {
                 last = Math.max(last, denyTo);
             }
             return barred == 0L ? last : Math.max(last, barFrom);
         }
 
-        private boolean isDenyDay(int day) {
-            return day >= denyFrom && day <= denyTo;
-        }
-
-        /** All to whom word or denial comes from outside that day. */
-        int toldOn(int day) {
-            int some = alone ? (day == 0 ? begin : 0) : plan.toldOn(day);
-            return isDenyDay(day) ? some | denied : some;
-        }
-
+        /** How much of the word, or of the denial, comes to one from outside on a day. */
         int amount(int day, int person, boolean deny) {
+            int bit = 1 << person;
             int sum = 0;
-            if (!alone) {
-                sum = plan.amount(day, person, deny);
-            } else if (!deny && day == 0 && (begin >> person & 1) != 0) {
-                sum = Plan.AMOUNT;
+            if (!alone && day < ACT_DAYS) {
+                sum = deny ? denials[day * ROOM + person] : words[day * ROOM + person];
             }
-            if (deny && isDenyDay(day) && (denied >> person & 1) != 0) {
-                sum += Plan.AMOUNT;
+            if (alone && !deny && day == 0 && (begin & bit) != 0) {
+                sum += AMOUNT;
+            }
+            if (deny && day >= denyFrom && day <= denyTo && (denied & bit) != 0) {
+                sum += AMOUNT;
             }
             return sum;
         }
 
+        /** Some say nothing at all. */
+        void silence(int some) {
+            silent = some;
+        }
+
+        boolean isSilent(int person) {
+            return (silent >> person & 1) != 0;
+        }
+
+        /** Some ties carry nothing at all. */
+        void kill(long some) {
+            dead = some;
+        }
+
+        /** The ties that carry on a day. */
         long openOn(int day) {
-            long shut = dead | plan.wallsOn(day);
+            long shut = day < ACT_DAYS ? dead | walls[day] : dead;
             return day >= barFrom ? ~(shut | barred) : ~shut;
         }
     }
 
-    /** What a run leaves, by days; rows have ROOM places for each day. */
-    private static final class Days {
-        static final int MANY = LAST_DAY + 1;
-        // a denial comes six days later at most
-        static final int AHEAD = 6;
+    /** What a run leaves of the word, or of the denial, by days: rows of bits, and of ROOM numbers each. */
+    private static final class Side {
+        final int[] has = new int[DAYS];
+        final int[] says = new int[DAYS];
+        /** The ties by which it went. */
+        final long[] ties = new long[DAYS];
+        final int[] comes = new int[DAYS * ROOM];
+        /** On how many days it was said, of those who tire. */
+        final int[] counts = new int[DAYS * ROOM];
 
-        final int[] word = new int[MANY];
-        final int[] denial = new int[MANY];
-        final int[] saysWord = new int[MANY];
-        final int[] saysDenial = new int[MANY];
-        final long[] wordTies = new long[MANY];
-        final long[] denialTies = new long[MANY];
-        final int[] sums = new int[MANY * ROOM];
-        final int[] wordCounts = new int[MANY * ROOM];
-        final int[] denialCounts = new int[MANY * ROOM];
-        final int[] wordComes = new int[(MANY + AHEAD) * ROOM];
-        final int[] denialComes = new int[(MANY + AHEAD) * ROOM];
-        final int[] comesTo = new int[MANY + AHEAD];
-        // days of the same state have the same print; few others have
-        final long[] print = new long[MANY];
+        boolean went(int day, int tie) {
+            return day >= 0 && (ties[day] >> tie & 1L) != 0L;
+        }
+
+        int has(int day, int person) {
+            return has[day] >> person & 1;
+        }
+
+        int says(int day, int person) {
+            return says[day] >> person & 1;
+        }
+
+        /** A day begins with what the one ahead of it left. */
+        void open(int day) {
+            if (day == 0) {
+                has[0] = 0;
+                Arrays.fill(counts, 0, ROOM, 0);
+                return;
+            }
+            has[day] = has[day - 1];
+            System.arraycopy(counts, (day - 1) * ROOM, counts, day * ROOM, ROOM);
+        }
+    }
+
+    /** What a run leaves, by days. */
+    private static final class Days {
+        private static final long MIX = 6364136223846793005L;
+
+        final Side word = new Side();
+        final Side denial = new Side();
+        final int[] sums = new int[DAYS * ROOM];
+        /** Days of the same state have the same print; few others have. */
+        private final long[] print = new long[DAYS];
         int ringDay;
         int ringLength;
         int reached;
 
+        Side side(boolean deny) {
+            return deny ? denial : word;
+        }
+
         int holdersOn(int day) {
-            return word[day] & ~denial[day];
+            return word.has[day] & ~denial.has[day];
         }
 
         int has(int day, int person) {
-            return word[day] >> person & 1 | (denial[day] >> person & 1) << 1;
+            return word.has(day, person) + 2 * denial.has(day, person);
         }
 
         int says(int day, int person) {
-            return saysWord[day] >> person & 1 | (saysDenial[day] >> person & 1) << 1;
+            return word.says(day, person) + 2 * denial.says(day, person);
         }
 
         boolean isClean() {
             if (ringDay == NONE) {
                 return false;
             }
-            for (int day = ringDay; day < ringDay + ringLength && day < MANY; day++) {
+            for (int day = ringDay; day < ringDay + ringLength && day < DAYS; day++) {
                 if (holdersOn(day) != 0) {
                     return false;
                 }
@@ -1156,8 +1167,8 @@ public final class SaidBack {
         }
 
         int quietFrom() {
-            int from = LAST_DAY + 1;
-            while (from > 0 && saysWord[from - 1] == 0) {
+            int from = DAYS;
+            while (from > 0 && word.says[from - 1] == 0) {
                 from--;
             }
             return from;
@@ -1171,10 +1182,12 @@ public final class SaidBack {
             return day;
         }
 
+        /** All (the bits of nobody too) who have the same from a day on. */
         int firmFrom(int since) {
             int other = 0;
             for (int day = since + 1; day <= LAST_DAY; day++) {
-                other |= word[day] ^ word[since] | denial[day] ^ denial[since];
+                other |= word.has[day] ^ word.has[since];
+                other |= denial.has[day] ^ denial.has[since];
             }
             return ~other;
         }
@@ -1189,91 +1202,71 @@ public final class SaidBack {
             return changes;
         }
 
-        void clearComing(int day) {
-            Arrays.fill(wordComes, day * ROOM, day * ROOM + ROOM, 0);
-            Arrays.fill(denialComes, day * ROOM, day * ROOM + ROOM, 0);
-            comesTo[day] = 0;
+        void open(int day) {
+            word.open(day);
+            denial.open(day);
+            if (day == 0) {
+                Arrays.fill(sums, 0, ROOM, 0);
+            } else {
+                System.arraycopy(sums, (day - 1) * ROOM, sums, day * ROOM, ROOM);
+            }
         }
 
-        /** A day begins with what the one ahead of it left. */
-        void openDay(int day) {
-            clearComing(day + AHEAD);
-            int row = day * ROOM;
-            if (day == 0) {
-                word[0] = 0;
-                denial[0] = 0;
-                print[0] = 0L;
-                Arrays.fill(sums, 0, ROOM, 0);
-                Arrays.fill(wordCounts, 0, ROOM, 0);
-                Arrays.fill(denialCounts, 0, ROOM, 0);
-                return;
+        void close(int day) {
+            long mixed = word.has[day] + MIX * denial.has[day];
+            for (int place = day * ROOM; place < (day + 1) * ROOM; place++) {
+                mixed = mixed * MIX + sums[place];
+                mixed = mixed * MIX + word.counts[place];
+                mixed = mixed * MIX + denial.counts[place];
             }
-            word[day] = word[day - 1];
-            denial[day] = denial[day - 1];
-            print[day] = print[day - 1];
-            System.arraycopy(sums, row - ROOM, sums, row, ROOM);
-            System.arraycopy(wordCounts, row - ROOM, wordCounts, row, ROOM);
-            System.arraycopy(denialCounts, row - ROOM, denialCounts, row, ROOM);
+            print[day] = mixed;
+            reached = day;
         }
 
         /** Whether all but what is still to come is the same. */
         boolean isAlike(int one, int other) {
-            if (print[one] != print[other] || word[one] != word[other] || denial[one] != denial[other]) {
-                return false;
+            boolean same = print[one] == print[other]
+                && word.has[one] == word.has[other] && denial.has[one] == denial.has[other];
+            for (int person = 0; person < ROOM && same; person++) {
+                int a = one * ROOM + person;
+                int b = other * ROOM + person;
+                same = sums[a] == sums[b] && word.counts[a] == word.counts[b]
+                    && denial.counts[a] == denial.counts[b];
             }
-            for (int i = 0; i < ROOM; i++) {
-                int a = one * ROOM + i;
-                int b = other * ROOM + i;
-                if (sums[a] != sums[b] || wordCounts[a] != wordCounts[b] || denialCounts[a] != denialCounts[b]) {
-                    return false;
-                }
-            }
-            return true;
+            return same;
         }
     }
 
     /** Lets a village live day by day by what it is given. */
     private static final class Run {
         private static final int SUM_END = 99;
-        private static final long MIX = 6364136223846793005L;
+        // a denial comes six days later at most
+        private static final int AHEAD = 6;
 
-        /** A copy of its own, so that what-ifs may change it. */
+        // a copy of its own, so that what-ifs may change it
         final Village village = new Village();
         final Given given = new Given();
         final Days days = new Days();
-        private final long[] tiesOf = new long[ROOM];
-        private final long[] weights = new long[3 * ROOM];
         private final int[] balance = new int[ROOM];
-        private int wordLimited;
-        private int denialLimited;
-        private int wordTired;
-        private int denialTired;
-
-        Run() {
-            long weight = MIX;
-            for (int i = 0; i < weights.length; i++) {
-                weights[i] = weight;
-                weight *= MIX;
-            }
-        }
 
         /**
          * Lives the days since .. until, or (tillRing) until a state has come again.
          * Since a later day than 0: the days ahead of it stand as they were lived before.
          */
         void live(int since, int until, boolean tillRing) {
-            if (since == 0) {
-                begin();
-            } else {
-                takeUp(since);
-            }
             days.ringDay = NONE;
             days.ringLength = NONE;
-            days.reached = since - 1;
             int last = given.lastDay();
             for (int day = since; day <= until && day <= LAST_DAY; day++) {
-                liveDay(day);
-                days.reached = day;
+                days.open(day);
+                bring(day, false, day <= last);
+                bring(day, true, day <= last);
+                for (int person = 0; person < village.people; person++) {
+                    hear(day, person);
+                }
+                say(day, false);
+                say(day, true);
+                days.close(day);
                 if (days.ringDay == NONE) {
                     findRing(day, last);
                 }
@@ -1283,167 +1276,92 @@ public final class SaidBack {
             }
         }
 
-        private void begin() {
-            Arrays.fill(tiesOf, 0L);
+        /** Brings to each one what comes that day by ties, and from outside, whatever his doubt. */
+        private void bring(int day, boolean deny, boolean outside) {
+            Side side = days.side(deny);
+            int row = day * ROOM;
+            for (int person = 0; person < village.people; person++) {
+                side.comes[row + person] = outside ? given.amount(day, person, deny) : 0;
+            }
             for (int tie = 0; tie < village.ties; tie++) {
-                tiesOf[village.from[tie]] |= 1L << tie;
-            }
-            wordLimited = 0;
-            denialLimited = 0;
-            for (int person = 0; person < village.people; person++) {
-                wordLimited |= village.limit(person, false) > 0 ? 1 << person : 0;
-                denialLimited |= village.limit(person, true) > 0 ? 1 << person : 0;
-            }
-            wordTired = 0;
-            denialTired = 0;
-            for (int day = 0; day < Days.AHEAD; day++) {
-                days.clearComing(day);
-            }
-        }
-
-        /** Makes again what stands open at the end of the day ahead. */
-        private void takeUp(int day) {
-            int row = (day - 1) * ROOM;
-            wordTired = 0;
-            denialTired = 0;
-            for (int person = 0; person < village.people; person++) {
-                wordTired |= isTired(days.wordCounts[row + person], person, false) ? 1 << person : 0;
-                denialTired |= isTired(days.denialCounts[row + person], person, true) ? 1 << person : 0;
-            }
-            for (int ahead = 0; ahead < Days.AHEAD; ahead++) {
-                days.clearComing(day + ahead);
-            }
-            for (int said = Math.max(0, day - Days.AHEAD); said < day; said++) {
-                carry(said, false, day);
-                carry(said, true, day);
-            }
-        }
-
-        private boolean isTired(int count, int person, boolean deny) {
-            int limit = village.limit(person, deny);
-            return limit > 0 && count >= limit;
-        }
-
-        private void liveDay(int day) {
-            days.openDay(day);
-            int some = (days.comesTo[day] | given.toldOn(day)) & village.all();
-            for (int person = 0; person < village.people; person++) {
-                if ((some >> person & 1) != 0) {
-                    hear(day, person);
+                if (side.went(day - village.delay(tie, deny), tie)) {
+                    side.comes[row + village.to[tie]] += village.strength[tie];
                 }
             }
-            days.saysWord[day] = days.word[day] & ~given.silent & ~wordTired;
-            days.saysDenial[day] = days.denial[day] & ~given.silent & ~denialTired;
-            wordTired |= countSaid(day, days.saysWord[day] & wordLimited, false);
-            denialTired |= countSaid(day, days.saysDenial[day] & denialLimited, true);
-            long open = given.openOn(day);
-            days.wordTies[day] = tiesFrom(days.saysWord[day]) & open;
-            days.denialTies[day] = tiesFrom(days.saysDenial[day]) & open;
-            carry(day, false, day);
-            carry(day, true, day);
-        }
-
-        /** What comes to one on a day, whatever his doubt. */
-        private int comes(int day, int person, boolean deny) {
-            int place = day * ROOM + person;
-            return given.amount(day, person, deny) + (deny ? days.denialComes[place] : days.wordComes[place]);
         }
 
         int hears(int day, int person, boolean deny) {
-            int amount = comes(day, person, deny);
+            int amount = days.side(deny).comes[day * ROOM + person];
             return amount < village.doubt[person] ? 0 : amount;
         }
 
         private void hear(int day, int person) {
+            int bit = 1 << person;
             int w = hears(day, person, false);
             int d = hears(day, person, true);
-            boolean hasNone = days.has(day, person) == 0;
+            if (w == 0 && d == 0) {
+                return;
+            }
+            if (village.kind[person] == BOTH) {
+                days.word.has[day] |= w > 0 ? bit : 0;
+                days.denial.has[day] |= d > 0 ? bit : 0;
+                return;
+            }
+            int lean = lean(day, person, w, d);
+            if (lean != 0) {
+                days.word.has[day] = days.word.has[day] & ~bit | (lean > 0 ? bit : 0);
+                days.denial.has[day] = days.denial.has[day] & ~bit | (lean < 0 ? bit : 0);
+            }
+        }
+
+        /** Above 0: one has the word from now on; below 0: the denial; at 0: what he had. */
+        private int lean(int day, int person, int w, int d) {
+            boolean hasNone = ((days.word.has[day] | days.denial.has[day]) >> person & 1) == 0;
             switch (village.kind[person]) {
                 case LAST:
-                    if (w != d) {
-                        have(day, person, w > d);
-                    }
-                    break;
+                    return w - d;
                 case MOST:
-                    weigh(day, person, w - d);
-                    break;
-                case TILL:
-                    if (d > 0 || w > 0 && hasNone) {
-                        have(day, person, d == 0);
-                    }
-                    break;
-                case BOTH:
-                    days.word[day] |= w > 0 ? 1 << person : 0;
-                    days.denial[day] |= d > 0 ? 1 << person : 0;
-                    break;
-                default:
-                    if (hasNone && (w > 0 || d > 0)) {
-                        have(day, person, w >= d);
-                    }
-            }
-        }
-
-        /** One has the word alone, or the denial alone. */
-        private void have(int day, int person, boolean isWord) {
-            int bit = 1 << person;
-            days.word[day] = isWord ? days.word[day] | bit : days.word[day] & ~bit;
-            days.denial[day] = isWord ? days.denial[day] & ~bit : days.denial[day] | bit;
-        }
-
-        private void weigh(int day, int person, int more) {
-            int place = day * ROOM + person;
-            int sum = Math.max(-SUM_END, Math.min(SUM_END, days.sums[place] + more));
-            days.print[day] += (sum - days.sums[place]) * weights[person];
-            days.sums[place] = sum;
-            if (sum != 0) {
-                have(day, person, sum > 0);
-            }
-        }
-
-        /** Counts a day on which some said it; answers those who tire by it. */
-        private int countSaid(int day, int some, boolean deny) {
-            int tired = 0;
-            int[] counts = deny ? days.denialCounts : days.wordCounts;
-            for (int person = 0; person < village.people && some != 0; person++) {
-                if ((some >> person & 1) != 0) {
                     int place = day * ROOM + person;
-                    counts[place]++;
-                    days.print[day] += weights[(deny ? 2 : 1) * ROOM + person];
-                    tired |= isTired(counts[place], person, deny) ? 1 << person : 0;
-                }
+                    days.sums[place] = Math.max(-SUM_END, Math.min(SUM_END, days.sums[place] + w - d));
+                    return days.sums[place];
+                case TILL:
+                    return d > 0 ? -d : hasNone ? w : 0;
+                default:
+                    if (!hasNone) {
+                        return 0;
+                    }
+                    return w >= d ? 1 : -1;
             }
-            return tired;
         }
 
-        private long tiesFrom(int some) {
+        private void say(int day, boolean deny) {
+            Side side = days.side(deny);
+            side.says[day] = 0;
+            side.ties[day] = 0L;
+            if (side.has[day] == 0) {
+                return;
+            }
+            int some = 0;
+            for (int person = 0; person < village.people; person++) {
+                int place = day * ROOM + person;
+                int limit = village.limit(person, deny);
+                boolean tired = limit > 0 && side.counts[place] >= limit;
+                boolean says = side.has(day, person) != 0 && !tired && !given.isSilent(person);
+                some |= says ? 1 << person : 0;
+                side.counts[place] += says && limit > 0 ? 1 : 0;
+            }
             long ties = 0L;
-            for (int person = 0; person < village.people && some != 0; person++) {
-                if ((some >> person & 1) != 0) {
-                    ties |= tiesOf[person];
-                }
+            for (int tie = 0; tie < village.ties; tie++) {
+                ties |= (long) (some >> village.from[tie] & 1) << tie;
             }
-            return ties;
+            side.says[day] = some;
+            side.ties[day] = ties & given.openOn(day);
         }
 
-        /** Brings what was said on a day where it comes from a day on. */
-        private void carry(int said, boolean deny, int since) {
-            long rest = deny ? days.denialTies[said] : days.wordTies[said];
-            int[] rows = deny ? days.denialComes : days.wordComes;
-            int slow = deny ? village.slow : 0;
-            for (int i = 0; i < village.ties && rest != 0L; i++) {
-                int tie = Long.bitCount((rest & -rest) - 1);
-                rest &= rest - 1;
-                int day = said + village.days[tie] + slow;
-                if (day >= since) {
-                    rows[day * ROOM + village.to[tie]] += village.strength[tie];
-                    days.comesTo[day] |= 1 << village.to[tie];
-                }
-            }
-        }
-
+        /** What follows a state follows it again: the first state that comes again is the ring's first one. */
         private void findRing(int day, int last) {
             for (int early = last; early < day; early++) {
-                if (days.isAlike(early, day) && awaitsSame(early, day)) {
+                if (days.isAlike(early, day) && awaitsSame(early, day, false) && awaitsSame(early, day, true)) {
                     days.ringDay = early;
                     days.ringLength = day - early;
                     return;
@@ -1452,22 +1370,17 @@ public final class SaidBack {
         }
 
         /** Whether at the end of both days as much is still to come to each one, day by day. */
-        private boolean awaitsSame(int one, int other) {
-            return awaitsSame(one, other, false) && awaitsSame(one, other, true);
-        }
-
         private boolean awaitsSame(int one, int other, boolean deny) {
-            boolean differs = false;
-            for (int ago = 0; ago < Days.AHEAD && !differs; ago++) {
-                differs = tiesAgo(one, ago, deny) != tiesAgo(other, ago, deny);
-            }
-            // by other ties it may still be as much
-            for (int ahead = 1; ahead <= Days.AHEAD && differs; ahead++) {
+            Side side = days.side(deny);
+            for (int ahead = 1; ahead <= AHEAD; ahead++) {
                 Arrays.fill(balance, 0);
                 for (int tie = 0; tie < village.ties; tie++) {
-                    int ago = village.days[tie] + (deny ? village.slow : 0) - ahead;
-                    long more = (tiesAgo(one, ago, deny) >> tie & 1L) - (tiesAgo(other, ago, deny) >> tie & 1L);
-                    balance[village.to[tie]] += (int) more * village.strength[tie];
+                    int ago = village.delay(tie, deny) - ahead;
+                    boolean before = ago >= 0 && side.went(one - ago, tie);
+                    boolean after = ago >= 0 && side.went(other - ago, tie);
+                    if (before != after) {
+                        balance[village.to[tie]] += before ? village.strength[tie] : -village.strength[tie];
+                    }
                 }
                 for (int person = 0; person < village.people; person++) {
                     if (balance[person] != 0) {
@@ -1478,18 +1391,10 @@ public final class SaidBack {
             return true;
         }
 
-        /** The ties by which it went some days ahead of a day. */
-        private long tiesAgo(int day, int ago, boolean deny) {
-            int said = day - ago;
-            if (ago < 0 || said < 0) {
-                return 0L;
-            }
-            return deny ? days.denialTies[said] : days.wordTies[said];
-        }
-
         int firstHeard(int person, boolean deny) {
+            Side side = days.side(deny);
             for (int day = 0; day <= LAST_DAY; day++) {
-                if (comes(day, person, deny) > 0) {
+                if (side.comes[day * ROOM + person] > 0) {
                     return day;
                 }
             }
@@ -1497,10 +1402,10 @@ public final class SaidBack {
         }
 
         int heardFrom(int person, int day, boolean deny) {
+            Side side = days.side(deny);
             int least = NONE;
             for (int tie = 0; tie < village.ties; tie++) {
-                int ago = village.days[tie] + (deny ? village.slow : 0);
-                boolean brings = village.to[tie] == person && (tiesAgo(day, ago, deny) >> tie & 1L) != 0L;
+                boolean brings = village.to[tie] == person && side.went(day - village.delay(tie, deny), tie);
                 if (brings && (least == NONE || village.from[tie] < least)) {
                     least = village.from[tie];
                 }
@@ -1517,12 +1422,14 @@ public final class SaidBack {
             for (int i = 0; i <= village.people && goesOn; i++) {
                 int day = firstHeard(one, false);
                 one = day == NONE ? NONE : heardFrom(one, day, false);
+                goesOn = one != NONE && (seen >> one & 1) == 0;
                 if (one != NONE && many == k) {
                     return one;
                 }
-                many += one == NONE ? 0 : 1;
-                goesOn = one != NONE && (seen >> one & 1) == 0;
-                seen |= one == NONE ? 0 : 1 << one;
+                if (one != NONE) {
+                    seen |= 1 << one;
+                    many++;
+                }
             }
             return k == NONE ? many : NOT_THERE;
         }
@@ -1533,11 +1440,17 @@ public final class SaidBack {
         private static final int OFTEN = 9;
         private static final int LATEST = 40;
         private static final int DOUBTS = 99;
+        // there are fewer sets of three of the people, and fewer of two ties
+        private static final int MOST_SETS = 1000;
+        private static final long NO_SET = 1L << 62;
+        // no village has so many people
+        private static final int MANY = 1000;
 
         private final Run life;
         private final Village village;
         private final Given given;
         private final Days days;
+        private final int[] firsts = new int[DAYS];
 
         Search(Run run) {
             life = run;
@@ -1550,24 +1463,19 @@ public final class SaidBack {
             return (1L << size) - 1;
         }
 
-        /** The next greater number of as many bits; a greater one than any set if there is none. */
+        /** The next greater number of as many bits. */
         private static long nextSet(long set) {
             long low = set & -set;
             if (low == 0L) {
-                return Long.MAX_VALUE;
+                return NO_SET;
             }
             long up = set + low;
             return up | ((up ^ set) / low) >> 2;
         }
 
-        /** Whether it is clean when the days since one are lived (again). */
-        private boolean isCleanSince(int since) {
-            life.live(since, LAST_DAY, true);
-            return days.isClean();
-        }
-
         int leastCure(int day, int most) {
-            if (isCleanSince(0)) {
+            life.live(0, LAST_DAY, true);
+            if (days.isClean()) {
                 return 0;
             }
             life.live(0, day - 1, false);
@@ -1577,18 +1485,22 @@ public final class SaidBack {
         /** The days ahead stand lived. */
         private int leastDenied(int day, int most) {
             for (int size = 1; size <= most; size++) {
-                for (long set = firstSet(size); set <= village.all(); set = nextSet(set)) {
+                long set = firstSet(size);
+                for (int i = 0; i < MOST_SETS && set <= village.all(); i++) {
                     given.deny((int) set, day, day);
-                    if (isCleanSince(day)) {
+                    life.live(day, LAST_DAY, true);
+                    if (days.isClean()) {
                         return (int) set;
                     }
+                    set = nextSet(set);
                 }
             }
             return NONE;
         }
 
         int lastCureDay(int most) {
-            if (isCleanSince(0)) {
+            life.live(0, LAST_DAY, true);
+            if (days.isClean()) {
                 return LATEST;
             }
             life.live(0, LATEST - 1, false);
@@ -1601,14 +1513,16 @@ public final class SaidBack {
         }
 
         int howManyCures(int day, int size) {
-            if (size == 0) {
-                return isCleanSince(0) ? 1 : 0;
-            }
-            life.live(0, day - 1, false);
+            // the set of nobody is no denial of that day
+            int since = size == 0 ? 0 : day;
+            life.live(0, since - 1, false);
             int many = 0;
-            for (long set = firstSet(size); set <= village.all(); set = nextSet(set)) {
+            long set = firstSet(size);
+            for (int i = 0; i < MOST_SETS && set <= village.all(); i++) {
                 given.deny((int) set, day, day);
-                many += isCleanSince(day) ? 1 : 0;
+                life.live(since, LAST_DAY, true);
+                many += days.isClean() ? 1 : 0;
+                set = nextSet(set);
             }
             return many;
         }
@@ -1617,7 +1531,8 @@ public final class SaidBack {
             life.live(0, day - 1, false);
             for (int many = 1; many <= OFTEN; many++) {
                 given.deny(1 << person, day, day + many - 1);
-                if (isCleanSince(day)) {
+                life.live(day, LAST_DAY, true);
+                if (days.isClean()) {
                     return many;
                 }
             }
@@ -1625,16 +1540,20 @@ public final class SaidBack {
         }
 
         long leastBarred(int day, int most) {
-            if (isCleanSince(0)) {
+            life.live(0, LAST_DAY, true);
+            if (days.isClean()) {
                 return 0L;
             }
             life.live(0, day - 1, false);
             for (int size = 1; size <= most; size++) {
-                for (long set = firstSet(size); set < 1L << village.ties; set = nextSet(set)) {
+                long set = firstSet(size);
+                for (int i = 0; i < MOST_SETS && set < 1L << village.ties; i++) {
                     given.bar(set, day);
-                    if (isCleanSince(day)) {
+                    life.live(day, LAST_DAY, true);
+                    if (days.isClean()) {
                         return set;
                     }
+                    set = nextSet(set);
                 }
             }
             return NONE;
@@ -1665,7 +1584,7 @@ public final class SaidBack {
 
         int nearestBeginning(int day, int holders, boolean far) {
             int best = NONE;
-            int least = Integer.MAX_VALUE;
+            int least = MANY;
             for (int person = 0; person < village.people; person++) {
                 int differ = Integer.bitCount(holdersBegunBy(1 << person, day) ^ holders);
                 if (differ < least) {
@@ -1681,20 +1600,18 @@ public final class SaidBack {
             return days.endHolders();
         }
 
-        private int endWithSilent(int person) {
-            given.silent = 1 << person;
-            return endHolders();
-        }
-
         int weightOf(int person) {
-            return endHolders() - endWithSilent(person);
+            int holders = endHolders();
+            given.silence(1 << person);
+            return holders - endHolders();
         }
 
         int bestSilent() {
             int best = NONE;
-            int least = Integer.MAX_VALUE;
+            int least = MANY;
             for (int person = 0; person < village.people; person++) {
-                int holders = endWithSilent(person);
+                given.silence(1 << person);
+                int holders = endHolders();
                 if (holders < least) {
                     least = holders;
                     best = person;
@@ -1705,9 +1622,9 @@ public final class SaidBack {
 
         int bestWithoutTie() {
             int best = NONE;
-            int least = Integer.MAX_VALUE;
+            int least = MANY;
             for (int tie = 0; tie < village.ties; tie++) {
-                given.dead = 1L << tie;
+                given.kill(1L << tie);
                 int holders = endHolders();
                 if (holders < least) {
                     least = holders;
@@ -1717,31 +1634,39 @@ public final class SaidBack {
             return best;
         }
 
-        private void draw(int seed) {
+        /** The ties that carry nothing in the world of a seed. */
+        private long drawnDead(int seed) {
             int x = seed;
-            given.dead = 0L;
+            long dead = 0L;
             for (int tie = 0; tie < village.ties; tie++) {
                 x = x * 1103515245 + 12345;
                 if ((x >>> 16) % 10 >= village.strength[tie]) {
-                    given.dead |= 1L << tie;
+                    dead |= 1L << tie;
                 }
             }
+            return dead;
         }
 
-        int drawnWorld(int seed, int day, boolean holders) {
-            draw(seed);
-            if (!holders) {
-                return isCleanSince(0) ? 1 : 0;
-            }
+        int drawnHolders(int seed, int day) {
+            given.kill(drawnDead(seed));
             life.live(0, day, false);
             return days.holdersOn(day);
+        }
+
+        boolean isDrawnClean(int seed) {
+            given.kill(drawnDead(seed));
+            life.live(0, LAST_DAY, true);
+            return days.isClean();
         }
 
         int drawnWorlds(int seed, int worlds, int day, boolean holders) {
             int sum = 0;
             for (int i = 0; i < worlds; i++) {
-                int world = drawnWorld(seed + i, day, holders);
-                sum += holders ? Integer.bitCount(world) : world;
+                if (holders) {
+                    sum += Integer.bitCount(drawnHolders(seed + i, day));
+                } else {
+                    sum += isDrawnClean(seed + i) ? 1 : 0;
+                }
             }
             return sum;
         }
@@ -1752,7 +1677,8 @@ public final class SaidBack {
                 for (int to = 0; to < village.people; to++) {
                     village.ties = ties;
                     village.addTie(from, to, 1, 9);
-                    if (from != to && isCleanSince(0)) {
+                    life.live(0, LAST_DAY, true);
+                    if (from != to && days.isClean()) {
                         return wantsTo ? to : from;
                     }
                 }
@@ -1762,12 +1688,10 @@ public final class SaidBack {
 
         int firstUnlike(Telling other) {
             life.live(0, LAST_DAY, false);
-            // the days of the first telling wait in rows that the second run leaves alone
-            int[] firsts = new int[Days.MANY];
             for (int day = 0; day <= LAST_DAY; day++) {
                 firsts[day] = days.holdersOn(day);
             }
-            given.plan.set(other);
+            given.set(other);
             life.live(0, LAST_DAY, false);
             for (int day = 0; day <= LAST_DAY; day++) {
                 if (firsts[day] != days.holdersOn(day)) {
@@ -1784,11 +1708,13 @@ public final class SaidBack {
 
         int leastShield(int person, int most) {
             for (int size = 0; size <= most; size++) {
-                for (long set = firstSet(size); set <= village.all(); set = nextSet(set)) {
-                    given.silent = (int) set;
+                long set = firstSet(size);
+                for (int i = 0; i < MOST_SETS && set <= village.all(); i++) {
+                    given.silence((int) set);
                     if ((set >> person & 1) == 0 && (everHolders() >> person & 1) == 0) {
                         return (int) set;
                     }
+                    set = nextSet(set);
                 }
             }
             return NONE;
@@ -1835,7 +1761,7 @@ public final class SaidBack {
 
         int bestTurned(int kind, boolean wantsEnd) {
             int best = NONE;
-            int least = Integer.MAX_VALUE;
+            int least = MANY;
             for (int person = 0; person < village.people; person++) {
                 int before = village.kind[person];
                 village.kind[person] = kind;
