@@ -17,6 +17,29 @@ public final class ModelTest {
         return below(100) < percent;
     }
 
+    /** Those of whom a denial takes the word, in a round: it goes about, and can be healed. */
+    private static Model.Village round(int people) {
+        Model.Village v = new Model.Village();
+        v.people = people;
+        int half = chance(50) ? people : 1 + below(people);
+        int longest = chance(70) ? 1 : 3;
+        for (int p = 0; p < people; p++) {
+            v.kind[p] = chance(10) ? below(6) : chance(80) ? 1 : 2 + below(3);
+            int next = p < half ? (p + 1) % half : half + (p + 1 - half) % (people - half);
+            if (next != p) {
+                v.ties.add(new int[] {p, next, 1 + below(longest), 1 + below(9)});
+            }
+        }
+        for (int t = below(4); t > 0 && people > 1; t--) {
+            int from = below(people);
+            v.ties.add(new int[] {from, (from + 1 + below(people - 1)) % people, 1 + below(longest), 1 + below(9)});
+        }
+        v.slow = chance(70) ? 0 : below(4);
+        v.wordTires = chance(80) ? 0 : below(8);
+        v.denialTires = chance(80) ? 0 : below(8);
+        return v;
+    }
+
     private static Model.Village village(int people, int ties) {
         Model.Village v = new Model.Village();
         v.people = people;
@@ -80,6 +103,20 @@ public final class ModelTest {
             } else {
                 acts.add(new int[] {sort, day, who, -1});
             }
+        }
+        return acts;
+    }
+
+    /** All told something at once, and a little behind that. */
+    private static List<int[]> start(Model.Village v) {
+        List<int[]> acts = new ArrayList<>();
+        int day = below(4);
+        int words = 20 + below(70);
+        for (int p = 0; p < v.people; p++) {
+            acts.add(new int[] {chance(words) ? 0 : 1, day, p, -1});
+        }
+        for (int i = below(4); i > 0; i--) {
+            acts.add(new int[] {below(2), below(30), below(v.people), -1});
         }
         return acts;
     }
@@ -247,8 +284,8 @@ public final class ModelTest {
     }
 
     private static void small(int round) {
-        Model.Village v = village(1 + below(6), below(13));
-        List<int[]> acts = telling(v, 1 + below(8));
+        Model.Village v = round % 2 == 0 ? village(1 + below(6), below(13)) : round(1 + below(6));
+        List<int[]> acts = round % 4 == 1 ? start(v) : telling(v, 1 + below(8));
         List<int[]> other = telling(v, 1 + below(4));
         String run = "small " + round + " " + text(v) + " | " + text(acts) + ": ";
         looks(told(v, acts, other), run, v, acts);
@@ -264,7 +301,7 @@ public final class ModelTest {
         cures(x, run, v, acts);
         draws(x, run, v, acts);
         goes(x, run, v);
-        if (round % 8 == 0) {
+        if (round % 9 == 0) {
             for (int n = 0; n < 3; n++) {
                 DUE.is(run + "late " + n, x.late(0, 0, n), Model.late(v, acts, n));
             }
@@ -273,11 +310,11 @@ public final class ModelTest {
     }
 
     private static void great(int round) {
-        Model.Village v = village(7 + below(10), 10 + below(31));
+        Model.Village v = round % 2 == 0 ? village(7 + below(10), 10 + below(31)) : round(7 + below(10));
         while (text(v).length() > 600) {
             v.ties.remove(v.ties.size() - 1);
         }
-        List<int[]> acts = telling(v, 2 + below(29));
+        List<int[]> acts = round % 4 == 1 ? start(v) : telling(v, 2 + below(29));
         String run = "great " + round + " " + text(v) + " | " + text(acts) + ": ";
         SaidBack x = told(v, acts, acts);
         looks(x, run, v, acts);
@@ -299,7 +336,7 @@ public final class ModelTest {
     }
 
     public static void main(String[] args) {
-        int rounds = args.length > 0 ? Integer.parseInt(args[0]) : 160;
+        int rounds = args.length > 0 ? Integer.parseInt(args[0]) : 200;
         for (int round = 0; round < rounds; round++) {
             small(round);
         }
