@@ -192,6 +192,18 @@ public final class ModelTest {
         }
     }
 
+    /** A what-if changes nothing that is told. */
+    private static void stays(SaidBack x, String run, Model.Village v, List<int[]> acts) {
+        Model m = new Model(v, acts);
+        for (int what = 0; what < 7; what++) {
+            DUE.is(run + "still run " + what, x.run(0, 0, what), m.run(what));
+        }
+        int day = below(Model.DAYS);
+        DUE.is(run + "still holders " + day, x.holders(0, 0, day, false), m.holders(day));
+        DUE.is(run + "still deniers " + day, x.holders(0, 0, day, true), m.deniers(day));
+        DUE.is(run + "still ever", x.whole(0, 0, 0), m.whole(0));
+    }
+
     private static void begins(SaidBack x, String run, Model.Village v, List<int[]> acts) {
         int day = below(chance(80) ? 10 : 100);
         int one = 1 << below(v.people) | 1 << below(v.people);
@@ -295,11 +307,16 @@ public final class ModelTest {
         x = told(v, acts, other);
         DUE.is(run + "unlike", x.unlike(0, 0, 1), Model.unlike(v, acts, other));
         DUE.is(run + "unlike none", x.unlike(0, 0, -1), Model.unlike(v, acts, new ArrayList<>()));
+        stays(x, run, v, acts);
         begins(x, run, v, acts);
+        stays(x, run, v, acts);
         weighs(x, run, v, acts);
+        stays(x, run, v, acts);
         x = told(v, acts, other);
         cures(x, run, v, acts);
+        stays(x, run, v, acts);
         draws(x, run, v, acts);
+        stays(x, run, v, acts);
         goes(x, run, v);
         if (round % 9 == 0) {
             for (int n = 0; n < 3; n++) {

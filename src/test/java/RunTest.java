@@ -181,6 +181,10 @@ public final class RunTest {
         // what is still to come counts: it comes on day 3
         run("on the way", "people 2;once 0;tie 0 1 3 1;doubt 1 2;", "word 0 0;", 3, 1, 0, 0, 0, 1, 0);
         run("a slow denial on the way", "people 2;once 0;tie 0 1 3 1;slow 3;", "deny 0 0;", 6, 1, 1, 0, 0, 0, -1);
+        // at the end of a wall nothing is on the way; what is said on the next day is, for six days, for three
+        run("six days ahead", "people 2;tie 0 1 3 1;slow 3;", "deny 0 0;wall 0 0 5;", 12, 1, 1, 5, 0, 0, -1);
+        run("three days ahead", "people 2;tie 0 1 3 1;", "word 0 0;wall 0 0 5;", 9, 1, 0, 5, 9, 2, 0);
+        run("a day ahead", "people 2;tie 0 1 1 1;", "word 0 0;wall 0 0 5;", 7, 1, 0, 5, 7, 2, 0);
         // by other ties as much comes to the same one: rows of two who have what the other has had
         run("a denial goes round", "people 3;last 0 1 2;tie 0 1 1 1;tie 1 2 1 1;tie 2 0 1 1;",
             "deny 0 0;word 0 1;deny 0 2;", 0, 3, 0, 0, 0, 1, -1);
@@ -205,6 +209,34 @@ public final class RunTest {
         SaidBack x = Tapes.with(b.toString(), acts.toString());
         DUE.is("10: who holds on day 139", x.holders(0, 0, 139, false), 1 << 3 | 1 << 8 | 1 << 15);
         DUE.is("10: who holds on day 140", x.holders(0, 0, 140, false), 1 | 1 << 4 | 1 << 9);
+    }
+
+    /** 1's sum is -99, and grows from day 101 on by one a day: on day 200 it is 1. */
+    private static void theLastDay() {
+        StringBuilder acts = new StringBuilder("word 99 0;");
+        for (int i = 0; i < 11; i++) {
+            acts.append("deny 0 1;");
+        }
+        SaidBack x = Tapes.with("people 4;most 1;tie 0 1 2 1;tie 1 2 1 1;", acts.toString(), acts + "wall 0 99 99;");
+        int[] run = {-1, -1, 0, 99, 200, 2, 200};
+        for (int what = 0; what < 7; what++) {
+            DUE.is("11: on day 200, " + what, x.run(0, 0, what), run[what]);
+        }
+        DUE.is("9: on day 200, his sum", x.person(0, 0, 200, 1, 3), 1);
+        DUE.is("9: on day 199, his sum", x.person(0, 0, 199, 1, 3), 0);
+        DUE.is("10: on day 200", x.holders(0, 0, 200, false), 3);
+        DUE.is("12: on day 200", x.held(0, 0, 1, 200), 1);
+        DUE.is("12: on day 199", x.held(0, 0, 1, 199), 0);
+        DUE.is("29: on day 200", x.unlike(0, 0, 1), 200);
+        DUE.is("30: ever, on day 200", x.whole(0, 0, 0), 3);
+        DUE.is("30: quiet, on day 200", x.whole(0, 0, 1), 201);
+        DUE.is("30: healed, on day 200", x.whole(0, 0, 2), 200);
+        DUE.is("30: firm, on day 200", x.whole(0, 0, 3), 15);
+        DUE.is("31: on day 200", x.wavers(0, 0, 1), 2);
+        DUE.is("34: on day 200", x.shield(0, 0, 1, 1), 1);
+        DUE.is("34: no later", x.shield(0, 0, 2, 1), 0);
+        DUE.is("36: on day 200", x.deaf(0, 0, 1), 2);
+        DUE.is("18: on day 200", x.matters(0, 0, 0), 1);
     }
 
     private static void wrongRuns() {
@@ -387,6 +419,7 @@ public final class RunTest {
         holders();
         runs();
         longRing();
+        theLastDay();
         wrongRuns();
         held();
         heard();
