@@ -211,6 +211,22 @@ public final class RunTest {
         DUE.is("10: who holds on day 140", x.holders(0, 0, 140, false), 1 | 1 << 4 | 1 << 9);
     }
 
+    /** Each call lives the run from day 0 on by itself. */
+    private static void firstCalls() {
+        String word = "word 0 0;deny 0 0;";
+        DUE.is("9: the first call", Tapes.with(CHAIN, word).person(0, 0, 1, 1, 0), 1);
+        DUE.is("10: the first call", Tapes.with(CHAIN, word).holders(0, 0, 1, false), 3);
+        DUE.is("11: the first call", Tapes.with(CHAIN, word).run(0, 0, 0), 4);
+        DUE.is("12: the first call", Tapes.with(CHAIN, word).held(0, 0, 0, 5), 6);
+        DUE.is("13: the first call", Tapes.with(CHAIN, word).heard(0, 0, 0, true, false), 0);
+        DUE.is("13: the first call, from", Tapes.with(CHAIN, word).heard(0, 0, 1, false, true), 0);
+        DUE.is("30: the first call", Tapes.with(CHAIN, word).whole(0, 0, 0), 15);
+        DUE.is("31: the first call", Tapes.with(CHAIN, word).wavers(0, 0, 0), 1);
+        DUE.is("38: the first call", Tapes.with(CHAIN, word).chain(0, 0, 1, 0), 0);
+        DUE.is("29: the first call", Tapes.with(CHAIN, word).unlike(0, 0, -1), 0);
+        DUE.is("18: the first call", Tapes.with(CHAIN, word).matters(0, 0, 0), 3);
+    }
+
     /** 1's sum is -99, and grows from day 101 on by one a day: on day 200 it is 1. */
     private static void theLastDay() {
         StringBuilder acts = new StringBuilder("word 99 0;");
@@ -420,6 +436,7 @@ public final class RunTest {
         runs();
         longRing();
         theLastDay();
+        firstCalls();
         wrongRuns();
         held();
         heard();

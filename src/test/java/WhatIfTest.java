@@ -434,6 +434,8 @@ public final class WhatIfTest {
         DUE.is("36: 99 heard", x.deaf(0, 2, 0), -1);
         DUE.is("36: anyway", x.deaf(0, -1, 3), 1);
         DUE.is("36: his doubt stays", x.village(0, 31), 5);
+        x = Tapes.with("people 2;tie 1 0 1 8;", "word 0 1;" + times("word 1 0;", 10));
+        DUE.is("36: 98 heard", x.deaf(0, 0, 0), 99);
         // a denial that is heard keeps him from holding: by a doubt of 1 already
         x = Tapes.with("people 2;till 0;tie 1 0 1 5;", "deny 0 0;word 0 1;");
         DUE.is("36: denied", x.deaf(0, 0, 0), 1);
