@@ -459,7 +459,7 @@ public final class SaidBack {
             return false;
         }
         life.village.copy(book.villages[village]);
-        life.given.set(book.tellingOrNull(telling));
+        life.given.set(book.tellingOrNull(telling), life.village.ties);
         return true;
     }
 
@@ -940,6 +940,7 @@ public final class SaidBack {
         private final int[] words = new int[ACT_DAYS * ROOM];
         private final int[] denials = new int[ACT_DAYS * ROOM];
         private final long[] walls = new long[ACT_DAYS];
+        private int tiesThere;
         private int lastAct;
         private int lastWall;
         /** Only the walls of the telling count, and those are told the word on day 0. */
@@ -953,11 +954,12 @@ public final class SaidBack {
         private long barred;
         private int barFrom;
 
-        /** Lays a telling (null: none) out by days, without any what-if. */
-        void set(Telling telling) {
+        /** Lays a telling (null: none) out by days, for a village of so many ties, without any what-if. */
+        void set(Telling telling, int ties) {
             Arrays.fill(words, 0);
             Arrays.fill(denials, 0);
             Arrays.fill(walls, 0L);
+            tiesThere = ties;
             lastAct = 0;
             lastWall = 0;
             alone = false;
@@ -976,8 +978,10 @@ public final class SaidBack {
         }
 
         private void raise(int tie, int since, int until) {
+            // a wall of a tie that is not there must not strike the further one of a what-if
+            long bit = tie < tiesThere ? 1L << tie : 0L;
             for (int day = since; day <= until && day < ACT_DAYS; day++) {
-                walls[day] |= 1L << tie;
+                walls[day] |= bit;
             }
             lastWall = Math.max(lastWall, until);
             lastAct = Math.max(lastAct, until);
@@ -1691,7 +1695,7 @@ public final class SaidBack {
             for (int day = 0; day <= LAST_DAY; day++) {
                 firsts[day] = days.holdersOn(day);
             }
-            given.set(other);
+            given.set(other, village.ties);
             life.live(0, LAST_DAY, false);
             for (int day = 0; day <= LAST_DAY; day++) {
                 if (firsts[day] != days.holdersOn(day)) {

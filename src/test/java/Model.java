@@ -16,6 +16,8 @@ final class Model {
         int slow;
         int wordTires;
         int denialTires;
+        /** How many of the ties are not the village's own: no act tells of them. */
+        int further;
 
         Village() {
             Arrays.fill(doubt, 1);
@@ -30,6 +32,7 @@ final class Model {
             v.slow = slow;
             v.wordTires = wordTires;
             v.denialTires = denialTires;
+            v.further = further;
             return v;
         }
     }
@@ -171,9 +174,10 @@ final class Model {
         findRing(state);
     }
 
-    private static boolean walled(List<int[]> acts, int tie, int day) {
+    private boolean walled(List<int[]> acts, int tie, int day) {
+        boolean own = tie < village.ties.size() - village.further;
         for (int[] act : acts) {
-            if (act[0] == 2 && act[1] == tie && day >= act[2] && day <= act[3]) {
+            if (own && act[0] == 2 && act[1] == tie && day >= act[2] && day <= act[3]) {
                 return true;
             }
         }
@@ -466,6 +470,7 @@ final class Model {
             for (int to = 0; to < v.people; to++) {
                 Village more = v.copy();
                 more.ties.add(new int[] {from, to, 1, 9});
+                more.further = 1;
                 if (from != to && new Model(more, acts).clean) {
                     return new int[] {from, to};
                 }

@@ -98,7 +98,9 @@ public final class ModelTest {
             int day = i == 0 ? below(3) : below(days);
             int who = chance(95) ? below(v.people) : below(16);
             if (sort == 2) {
-                int tie = v.ties.isEmpty() || chance(5) ? below(40) : below(v.ties.size());
+                boolean next = chance(10) && v.ties.size() < 40;
+                int there = v.ties.isEmpty() || chance(5) ? below(40) : below(v.ties.size());
+                int tie = next ? v.ties.size() : there;
                 acts.add(new int[] {2, tie, day, Math.min(99, day + below(days))});
             } else {
                 acts.add(new int[] {sort, day, who, -1});
@@ -326,6 +328,25 @@ public final class ModelTest {
         runs(told(v, acts, other), run + "the other: ", v, other, 1);
     }
 
+    /** Few people, ties, acts: what a what-if adds meets acts of those, and of ties, that are not there. */
+    private static void tiny(int round) {
+        Model.Village v = village(1 + below(3), below(3));
+        v.denialTires = below(3);
+        List<int[]> acts = chance(50) ? start(v) : telling(v, 1 + below(4));
+        for (int i = below(3); i > 0; i--) {
+            int day = below(4);
+            acts.add(chance(50) ? new int[] {2, v.ties.size() + below(2), day, day + below(90)}
+                : new int[] {below(2), day, v.people + below(2), -1});
+        }
+        String run = "tiny " + round + " " + text(v) + " | " + text(acts) + ": ";
+        SaidBack x = told(v, acts, acts);
+        runs(x, run, v, acts, 0);
+        cures(x, run, v, acts);
+        weighs(x, run, v, acts);
+        begins(x, run, v, acts);
+        stays(x, run, v, acts);
+    }
+
     private static void great(int round) {
         Model.Village v = round % 2 == 0 ? village(7 + below(10), 10 + below(31)) : round(7 + below(10));
         while (text(v).length() > 600) {
@@ -356,6 +377,9 @@ public final class ModelTest {
         int rounds = args.length > 0 ? Integer.parseInt(args[0]) : 200;
         for (int round = 0; round < rounds; round++) {
             small(round);
+        }
+        for (int round = 0; round < rounds; round++) {
+            tiny(round);
         }
         for (int round = 0; round < rounds / 8; round++) {
             great(round);

@@ -187,6 +187,7 @@ public final class WhatIfTest {
         x = Tapes.with("people 2;till 0 1;" + times("tie 0 1 1 1;", 40), "word 0 0;deny 0 1;");
         DUE.is("28: behind 40 ties", x.join(0, 0, false), 1);
         DUE.is("28: there are still 40", x.village(0, 1), 40);
+        besideWalls();
         DUE.is("28: no one else", Tapes.with("people 1;", "word 0 0;").join(0, 0, false), -1);
         for (boolean to : new boolean[] {false, true}) {
             DUE.is("28: no telling 1", x.join(0, 1, to), -1);
@@ -196,6 +197,23 @@ public final class WhatIfTest {
                 DUE.is("28: telling " + edge, x.join(0, edge, to), -1);
             }
         }
+    }
+
+    /** Of a tie that is not there a wall does nothing, and not to the further one; of one that is there it does. */
+    private static void besideWalls() {
+        // the denial is said on day 0 alone: behind a wall of that day it comes to nobody
+        String once = LONELY + "tires 0 1;";
+        SaidBack x = Tapes.with(once, "word 0 0;deny 0 2;wall 0 0 0;", "word 0 0;deny 0 2;wall 1 0 0;wall 0 0 0;");
+        DUE.is("28: beside a wall of no tie", x.join(0, 0, false), 2);
+        DUE.is("28: beside a wall of no tie, to", x.join(0, 0, true), 0);
+        Tapes.tell(x, Tapes.VILLAGE, once + "tie 2 0 1 9;");
+        DUE.is("11: a wall of a tie", x.run(1, 0, 2), 0);
+        DUE.is("28: past a walled tie", x.join(1, 0, false), 2);
+        DUE.is("28: past a walled tie, beside a wall of no tie", x.join(1, 1, false), 2);
+        DUE.is("28: past a walled tie, beside a wall of no tie, to", x.join(1, 1, true), 0);
+        DUE.is("28: told again of the first one", x.join(0, 1, false), 2);
+        x = Tapes.with("people 2;till 0 1;tires 0 1;" + times("tie 0 1 1 1;", 39), "word 0 0;deny 0 1;wall 39 0 9;");
+        DUE.is("28: the 40th tie, beside a wall of it", x.join(0, 0, false), 1);
     }
 
     private static void begun(SaidBack x, String what, int telling, int day, int holders, int... due) {
