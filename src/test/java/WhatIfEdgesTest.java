@@ -417,6 +417,30 @@ public final class WhatIfEdgesTest {
         }
     }
 
+    /** "(ACTS of .. TIES that are not, do nothing.)": the further tie has no wall, the last one told has. */
+    private static void noWallOfTheFurtherTie() {
+        // the denial is said on day 0 alone
+        for (int ties = 0; ties <= 2; ties++) {
+            String village = "people 3;till 0 1 2;tires 0 1;" + times("tie 2 0 1 1;", ties);
+            for (int walled = 0; walled <= 3; walled++) {
+                StringBuilder walls = new StringBuilder();
+                for (int tie = 0; tie < walled; tie++) {
+                    walls.append("wall ").append(tie).append(" 0 0;");
+                }
+                SaidBack x = Tapes.with(village, "word 0 0;deny 0 2;" + walls);
+                boolean clean = walled < ties;
+                String label = "28: " + ties + " ties, " + walled + " walls";
+                DUE.is(label + ", clean", x.run(0, 0, 2), clean ? 1 : 0);
+                DUE.is(label, x.join(0, 0, false), clean ? 0 : 2);
+                DUE.is(label + ", to", x.join(0, 0, true), clean ? 1 : 0);
+            }
+        }
+        SaidBack x = Tapes.with("people 3;till 0 1 2;tires 0 1;" + times("tie 0 1 1 1;", 39), "word 0 0;deny 0 2;wall 39 0 99;",
+            "word 0 0;deny 0 2;wall 38 0 99;");
+        DUE.is("28: a wall of the further tie's number, 39", x.join(0, 0, false), 2);
+        DUE.is("28: a wall of the last one's number, 38", x.join(0, 1, false), 2);
+    }
+
     // term 6: OFTEN, CURES, SHIELD, WORST, LONGEST, DEAF, TURN
 
     /** "OFTEN ..: the fewest days, 1 .. 9, one behind the other, by deny to him on each of which it is CLEAN." */
@@ -548,6 +572,10 @@ public final class WhatIfEdgesTest {
         SaidBack x = Tapes.with("people 1;till 0;", "word 1 0;deny 0 0;", "word 0 0;word 0 0;deny 0 0;");
         DUE.is("36: denied ahead of it", x.deaf(0, 0, 0), 1);
         DUE.is("36: denied with it", x.deaf(0, 1, 0), 1);
+        // among EVER for a day, though denied in the end: unless he doesn't hear the word
+        x = Tapes.with("people 1;last 0;", "word 0 0;deny 1 0;", "word 0 0;deny 0 0;deny 0 0;");
+        DUE.is("36: held for a day", x.deaf(0, 0, 0), 10);
+        DUE.is("36: held on no day", x.deaf(0, 1, 0), 1);
         for (int days = 1; days <= 3; days++) {
             x = Tapes.with("most 1;tie 0 1 " + days + " 1;", "word 99 0;" + times("deny 0 1;", 11));
             DUE.is("36: on day " + (198 + days), x.deaf(0, 0, 1), days <= 2 ? 2 : 1);
@@ -594,6 +622,7 @@ public final class WhatIfEdgesTest {
         barredDayIsAnAct();
         oneDayOfNine();
         leastFromThenTo();
+        noWallOfTheFurtherTie();
         often();
         justSoMany();
         shield();
